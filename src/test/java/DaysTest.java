@@ -11,6 +11,7 @@ public final class DaysTest {
         dayByDay();
         inTheirOrder();
         petalsAhead();
+        orderedAhead();
         leavingAhead();
         leavingByOrder();
         wrongCalls();
@@ -232,6 +233,29 @@ public final class DaysTest {
         y.tell(0, 21);
         Checks.due("petalsAfter(0, 19) without orders", y.petalsAfter(0, 19), 1);
         Checks.due("petalsAfter(0, 30) without orders", y.petalsAfter(0, 30), 0);
+    }
+
+    /** What would be follows the same tests from the same numbers: cycles, whispers, heard, latest, petals, hears, day. */
+    private static void orderedAhead() {
+        String[] tests = {"cycles = 2", "whispers = 6", "heard of a = 2", "latest of b = 29", "latest of a = 30",
+            "petals of r = 58", "hears r of a", "not hears s of a", "day = 1", "heard of b = 2 and heard of c = 0"};
+        for (String test : tests) {
+            String text = HEDGE + "tell c with 41 when " + test + ";";
+            HedgeNews x = Checks.taught(text);
+            x.passDays(1);
+            x.roseListens(0, 0);
+            x.hedgeListens(1, 0);
+            x.hedgeListens(0, 1);
+            x.roseListens(1, 2);
+            x.tell(0, 30);
+            x.tell(0, 30);
+            int ahead = x.petalsAfter(1, 1);
+            Checks.due("whispers() ahead of " + test, x.whispers(), 6);
+            Checks.due("petalsOf(0) ahead of " + test, x.petalsOf(0), 58);
+            Checks.due("petalsAfter(1, 1) with " + test, ahead, 39);
+            x.passDays(1);
+            Checks.due("petalsOf(1) with " + test, x.petalsOf(1), ahead);
+        }
     }
 
     private static void leavingAhead() {

@@ -5,6 +5,7 @@ public final class DigestTest {
     public static void main(String[] args) {
         nothing();
         smallOnes();
+        twentyLoud();
         fromTheOtherAnswers();
         Checks.finish("DigestTest");
     }
@@ -52,6 +53,27 @@ public final class DigestTest {
             2, 7, 2, -1, 1, -1, 0,
             2, 8, 2, 0, -1, -1, 1,
             30, 0, 0, 27, 0, 2));
+    }
+
+    /** Gardens in which the best one to tell is another with 19 than with 20, and with 21 than with 20. */
+    private static void twentyLoud() {
+        HedgeNews x = Checks.taught("hedge b hush 1;hedge a hush 9;hedge c hush 1;rose r patience 2;rose s patience 9;");
+        x.roseListens(0, 0);
+        x.hedgeListens(0, 1);
+        x.hedgeListens(2, 1);
+        x.roseListens(1, 2);
+        for (int loudness = 18; loudness <= 21; loudness++) {
+            Checks.due("bestToTell(" + loudness + ")", x.bestToTell(loudness), loudness < 20 ? 0 : 1);
+        }
+        Checks.due("digest()", x.digest(), reckoned(x));
+        HedgeNews y = Checks.taught("hedge b hush 1;hedge a hush 9;hedge c hush 2;rose r patience 2;rose s patience 9;");
+        y.roseListens(0, 0);
+        y.hedgeListens(0, 1);
+        y.hedgeListens(2, 1);
+        y.roseListens(1, 2);
+        Checks.due("bestToTell(20)", y.bestToTell(20), 0);
+        Checks.due("bestToTell(21)", y.bestToTell(21), 1);
+        Checks.due("digest()", y.digest(), reckoned(y));
     }
 
     private static long reckoned(HedgeNews x) {

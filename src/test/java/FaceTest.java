@@ -62,6 +62,10 @@ public final class FaceTest {
         for (Class<?> inside : face.getDeclaredClasses()) {
             Checks.due(inside.getSimpleName() + " is static", Modifier.isStatic(inside.getModifiers()), true);
             Checks.due(inside.getSimpleName() + " is public", Modifier.isPublic(inside.getModifiers()), false);
+            for (Method method : inside.getDeclaredMethods()) {
+                Checks.due(inside.getSimpleName() + " has a face's name: " + method.getName(),
+                    names.contains(method.getName()), false);
+            }
         }
         Checks.finish("FaceTest");
     }

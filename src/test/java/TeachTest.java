@@ -11,6 +11,7 @@ public final class TeachTest {
         depths();
         tokenCount();
         namesToldBefore();
+        namesAreTheirSigns();
         namesNotTold();
         tooMany();
         numbers();
@@ -169,6 +170,22 @@ public final class TeachTest {
         Checks.dueErrorAtMark("hedge a1 hush 1;hedge a hush 1;hedge ^a1 hush 1;", 2);
         Checks.dueErrorAtMark("hedge abcdefghij hush 1;hedge abcdefghik hush 1;rose ^abcdefghij patience 1;", 2);
         Checks.dueError("hedge a hush 1;hedge a0 hush 1;hedge aa hush 1;hedge a00 hush 1;hedge b hush 1;", 0, -1);
+    }
+
+    /** Two names that differ in one sign are two names, and every sign can stand in one. */
+    private static void namesAreTheirSigns() {
+        String signs = "abcdefghijklmnopqrstuvwxyz0123456789";
+        for (int i = 0; i < signs.length(); i++) {
+            char one = signs.charAt(i);
+            Checks.dueErrorAtMark("hedge q" + one + " hush 1;hedge ^q" + one + " hush 1;", 2);
+            Checks.dueErrorAtMark("hedge q" + one + "345678a0 hush 1;rose ^q" + one + "345678a0 patience 1;", 2);
+            for (int j = 0; j < i; j++) {
+                char other = signs.charAt(j);
+                Checks.dueError("hedge q" + one + " hush 1;hedge q" + other + " hush 1;rose q" + one + "a patience 1;rose q"
+                    + other + "a patience 1;hedge q" + one + "7 hush 1;hedge q" + other + "7 hush 1;", 0, -1);
+            }
+        }
+        Checks.dueError("hedge z hush 1;rose zz patience 1;", 0, -1);
     }
 
     private static void namesNotTold() {
