@@ -301,6 +301,10 @@ public final class TeachTest {
         other.passDays(7);
         Checks.due("digest() behind 7 days again", x.digest(), other.digest());
         Checks.due("daysUntilLeft(0) counts anew", x.daysUntilLeft(0), other.daysUntilLeft(0));
+        for (int i = 0; i < 3; i++) {
+            String ten = AHEAD + many(1, 10, "tell a with N;");
+            Checks.due("teach() of ten orders, for which only this tape counts", Checks.teach(x, ten), 0);
+        }
         Checks.due("teach() of another garden", Checks.teach(x, "rose q patience 4;hedge p hush 5;"), 0);
         Checks.due("hedges()", x.hedges(), 1);
         Checks.due("roses()", x.roses(), 1);
