@@ -8,8 +8,22 @@ final class Checks {
 
     private static int wrong = 0;
     private static int looked = 0;
+    private static String about = "";
 
     private Checks() {
+    }
+
+    /** What the following answers are about; it stands ahead of each that is wrong. */
+    static void about(String name) {
+        about = name.isEmpty() ? "" : "[" + name + "] ";
+    }
+
+    static int wrongSoFar() {
+        return wrong;
+    }
+
+    static int lookedSoFar() {
+        return looked;
     }
 
     interface Call {
@@ -20,7 +34,7 @@ final class Checks {
         looked++;
         if (got != want) {
             wrong++;
-            System.out.println(what + " answered " + got + ", due is " + want);
+            System.out.println(about + what + " answered " + got + ", due is " + want);
         }
     }
 
@@ -32,7 +46,7 @@ final class Checks {
         looked++;
         if (got != want) {
             wrong++;
-            System.out.println(what + " answered " + got + ", due is " + want);
+            System.out.println(about + what + " answered " + got + ", due is " + want);
         }
     }
 

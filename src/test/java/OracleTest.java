@@ -7,6 +7,9 @@ import java.util.List;
 public final class OracleTest {
     private static final int RUNS = Integer.getInteger("runs", 400);
     private static final int FIRST_SEED = Integer.getInteger("seed", 1);
+    /** What an object answers behind so many calls is free. */
+    private static final int MOST_CALLS = 512;
+    private static final int MOST_TO_TEACH = 105;
     private static final String[] HEDGES = {"a", "b1", "cyprus", "dogwood789", "e", "f", "g", "h", "i"};
     private static final String[] ROSES = {"r", "s2", "tea", "u", "v", "wild", "x", "y", "z"};
     private static final String[] SNIPPETS = {"hedge", "rose", "hush", "to", "with", "when", "not", "[", "]", "(", ")", "-", "+",
@@ -19,6 +22,7 @@ public final class OracleTest {
     private static int looked;
     private static int gardens;
     private static int errors;
+    private static int callsMade;
 
     public static void main(String[] args) throws Exception {
         for (int run = 0; run < RUNS && wrong < 20; run++) {
@@ -62,15 +66,16 @@ public final class OracleTest {
     private static void run(int seed) throws Exception {
         HedgeNews x = new HedgeNews();
         Reference y = new Reference();
+        callsMade = 0;
         int teachings = 1 + below(6);
-        for (int i = 0; i < teachings; i++) {
+        for (int i = 0; i < teachings && callsMade + MOST_TO_TEACH <= MOST_CALLS; i++) {
             String text = oneIn(3) ? spoiled(garden()) : garden();
             if (text.length() > 1990) {
                 continue;
             }
             teach(seed, x, y, text);
             int calls = below(40);
-            for (int call = 0; call < calls; call++) {
+            for (int call = 0; call < calls && callsMade + 2 <= MOST_CALLS; call++) {
                 oneCall(seed, x, y);
             }
         }
@@ -130,6 +135,7 @@ public final class OracleTest {
         Object got = answer(HedgeNews.class.getMethod(name, types), x, numbers);
         Object want = answer(Reference.class.getMethod(name, types), y, numbers);
         looked++;
+        callsMade++;
         if (!got.equals(want)) {
             wrong++;
             System.out.println("seed " + seed + ": " + name + java.util.Arrays.toString(numbers) + " answered " + got
